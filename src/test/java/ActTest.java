@@ -159,6 +159,7 @@ public final class ActTest {
         Bench b = held(";limit 3;base 4");
         Bench.due(16, "cause 6", IAE, () -> b.x.fail(0, 0, 1, 6));
         Bench.due(16, "cause -1", IAE, () -> b.x.fail(0, 0, 1, -1));
+        Bench.due(16, "no session ahead of no cause", IOOBE, () -> b.x.fail(2, 0, 1, 6));
         Bench.due(16, "no job ahead of no cause", IOOBE, () -> b.x.fail(0, 1, 1, 6));
         Bench.due(16, "no cause ahead of a wrong token", IAE, () -> b.x.fail(0, 0, 2, 6));
         Bench.due(7, "why() stays", 0, () -> b.x.why());
@@ -279,6 +280,10 @@ public final class ActTest {
         Bench.due(19, "no job", IOOBE, () -> b.x.retry(0, 1));
         b.x.commit(1);
         Bench.due(19, "its row", "3 0 0 2 1", () -> b.log(0));
+        b.x.claim(0);
+        b.x.fail(0, 0, 3, 5);
+        Bench.due(19, "without a transaction", 1, () -> b.x.retry(1, 0));
+        Bench.due(19, "COMMITTED at once", "3 0 0 3 0 -1", () -> b.log(0) + " " + b.x.locked(0));
     }
 
     private static void brings() {
@@ -330,5 +335,20 @@ public final class ActTest {
         Bench.due(21, "SWEPT", 3, () -> b.x.count(9));
         Bench.due(21, "CAME", 4, () -> b.x.count(7));
         Bench.due(20, "the next NUMBER", 4, () -> b.x.bring(0, 0, 0, 1));
+        b.x.bring(1, 5, 9, 9);
+        b.x.bring(1, 4, 8, 8);
+        Bench.due(21, "each of those that come then is a job by itself", "2 4 5 6 0 5 4", () -> b.x.find(3, 0) + " " + b.found(0) + " "
+            + b.x.job(-1, 4, 0) + " " + b.x.job(-1, 5, 0) + " " + b.x.job(-1, 6, 0));
+        b.x.retry(0, 2);
+        b.query(0, "claim 1 where number = 2");
+        b.x.claim(0);
+        b.x.fail(0, 2, 5, 1);
+        b.x.ticks(5);
+        b.x.claim(0);
+        b.x.finish(0, 2, 6);
+        b.x.sweep();
+        int fresh = b.x.bring(0, 3, 0, 1);
+        Bench.due(20, "nothing is left of one that went", "0 5 0 0 -1 0", () -> ofJob(b, -1, fresh));
+        Bench.due(20, "nor of its CAUSES", "0 -1", () -> b.x.job(-1, fresh, 7) + " " + b.x.cause(-1, fresh, 0));
     }
 }

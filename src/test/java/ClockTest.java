@@ -137,6 +137,12 @@ public final class ClockTest {
             Bench.due(22, "DUE of job " + j, born[j], () -> b.x.job(-1, job, 5));
             Bench.due(22, "SLOT of job " + j, j + 2, () -> b.x.job(-1, job, 12));
         }
+        b.table("session");
+        b.x.image();
+        b.x.back();
+        b.x.ticks(3);
+        Bench.due(22, "behind another text", "1 5 3 5", () -> b.x.job(-1, 3, 0) + " " + b.x.job(-1, 3, 1) + " " + b.x.job(-1, 3, 2)
+            + " " + b.x.job(-1, 3, 12));
         Bench.due(22, "PRIORITY, COST, STATE", "5 3 0", () -> b.x.job(-1, 0, 1) + " " + b.x.job(-1, 0, 2) + " " + b.x.job(-1, 0, 3));
         Bench.due(22, "no row of THE LOG", 0, () -> b.x.count(17));
     }

@@ -5,6 +5,8 @@ public final class ImageTest {
         allGoesBack();
         whatStays();
         transactionsGoBack();
+        savepointsGoBack();
+        nothingIsLeftBehind();
         isKeptApart();
         counts();
         Bench.end("ImageTest");
@@ -53,12 +55,15 @@ public final class ImageTest {
             + "job group 0 priority 3 cost 1;job group 0 priority 4 cost 1;job group 2 priority 5 cost 1");
         b.query(1, "claim 2 where priority > 3 order by number desc");
         b.x.ticks(8);
+        b.table("job group 5 priority 9 cost 1");
+        b.x.bring(0, 5, 0, 1);
+        sweepsOne(b);
         b.x.claim(0);
         b.x.begin(1);
         b.x.claim(1);
         b.x.save(1);
         b.x.bring(1, 3, 3, 3);
-        b.x.fail(0, 0, 1, 4);
+        b.x.fail(0, 0, b.x.job(0, 0, 8), 4);
         b.x.image();
         String kept = all(b);
         b.table("session;base 9;cap 9;jitter 9;limit 9;lease 9;parallel 0 1;parallel 2 4;every 1 at 0 group 0 priority 0 cost 1;"
@@ -118,6 +123,56 @@ public final class ImageTest {
         Bench.due(12, "roll", 1, () -> b.x.roll(0));
         b.x.back();
         Bench.due(11, "or commit", 1, () -> b.x.commit(0));
+    }
+
+    private static void sweepsOne(Bench b) {
+        b.query(0, "claim 1 where group = 5");
+        int number = b.claimed(0);
+        b.x.finish(0, number, b.x.job(-1, number, 8));
+        b.x.sweep();
+        b.query(0, "claim 1 where group < 3");
+    }
+
+    private static void savepointsGoBack() {
+        Bench b = Bench.of("session;limit 9;job group 0 priority 0 cost 1");
+        b.x.begin(0);
+        b.x.claim(0);
+        b.x.save(0);
+        b.x.fail(0, 0, 1, 3);
+        b.x.save(0);
+        b.x.image();
+        b.x.undo(0, 0);
+        b.x.fail(0, 0, 1, 1);
+        b.x.save(0);
+        b.x.back();
+        b.x.undo(0, 1);
+        Bench.due(45, "the version of the later SAVEPOINT", 3, () -> b.x.cause(0, 0, 0));
+        b.x.undo(0, 0);
+        Bench.due(45, "the version of the first SAVEPOINT", "1 -1", () -> b.x.job(0, 0, 3) + " " + b.x.cause(0, 0, 0));
+    }
+
+    /** What comes in the place of what went by going back must have nothing of it. */
+    private static void nothingIsLeftBehind() {
+        for (int texts = 0; texts < 3; texts++) {
+            nothingIsLeftBehind(texts);
+        }
+    }
+
+    private static void nothingIsLeftBehind(int texts) {
+        Bench b = Bench.of("session");
+        b.x.image();
+        b.table("session;every 5 at 0 group 0 priority 0 cost 1 grace 9;every 5 at 0 group 0 priority 0 cost 1 each");
+        b.query(1, "claim 6 where number > 900 order by cost");
+        b.x.begin(1);
+        b.x.bring(1, 0, 0, 1);
+        b.x.back();
+        for (int i = 0; i < texts; i++) {
+            b.table("");
+        }
+        b.table("session;every 5 at 0 group 0 priority 0 cost 1;every 5 at 0 group 0 priority 0 cost 1;job group 0 priority 0 cost 1");
+        Bench.due(45, "KIND and GRACE", "0 0 0 0", () -> b.x.plan(0, 2) + " " + b.x.plan(0, 3) + " " + b.x.plan(1, 2) + " " + b.x.plan(1, 3));
+        Bench.due(45, "LOCKED", "-1 0", () -> b.x.locked(0) + " " + b.x.count(11));
+        Bench.due(45, "a query", "1 0", () -> b.x.session(1, 5) + " " + b.next(1));
     }
 
     private static void isKeptApart() {

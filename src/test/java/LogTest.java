@@ -49,6 +49,13 @@ public final class LogTest {
         Bench.due(43, "the latest", "31 0 0 31 0", () -> b.log(0));
         Bench.due(37, "a row that is gone", -1, () -> b.x.was(0, 0));
         Bench.due(37, "the eldest that is kept", 2, () -> b.x.was(0, 1));
+        b.table("session");
+        Bench.due(43, "the latest behind a text", "31 0 0 31 0", () -> b.log(0));
+        b.x.image();
+        b.x.claim(1);
+        b.x.back();
+        Bench.due(43, "the latest behind going back", "31 0 0 31 0", () -> b.log(0));
+        Bench.due(43, "the eldest behind going back", "1 0 1 2 0", () -> b.log(59));
     }
 
     private static void heldAt() {
@@ -119,10 +126,14 @@ public final class LogTest {
         Bench.due(39, "no group", IOOBE, () -> b.x.overtaken(6));
         Bench.due(39, "group -1", IOOBE, () -> b.x.overtaken(-1));
         Bench.due(39, "nobody", 0, () -> b.x.overtaken(0));
+        b.query(1, "claim 1 where group = 1");
+        b.x.claim(1);
+        b.query(1, "claim 1");
+        Bench.due(39, "pairs are of one group", "0 0", () -> b.x.overtaken(0) + " " + b.x.overtaken(1));
         // Session 0 claims job 0 and sets it aside unseen; once that is COMMITTED only its last STATE has a row.
         b.x.begin(0);
         b.x.claim(0);
-        b.x.fail(0, 0, 1, 5);
+        b.x.fail(0, 0, 2, 5);
         b.x.commit(0);
         Bench.due(39, "set aside without a row that is HELD", 0, () -> b.x.overtaken(0));
         b.x.claim(1);
@@ -133,7 +144,7 @@ public final class LogTest {
         b.x.claim(0);
         Bench.due(39, "job 0 behind both", 2, () -> b.x.overtaken(0));
         Bench.due(39, "another group", 0, () -> b.x.overtaken(1));
-        b.x.finish(1, 1, 2);
+        b.x.finish(1, 1, 3);
         b.x.sweep();
         Bench.due(39, "those that THE TABLE has", 1, () -> b.x.overtaken(0));
     }

@@ -136,6 +136,7 @@ public final class QuestionTest {
         b.query(0, "claim 1 where group = 0");
         // Behind session 0 the other one gets none of the group, ahead of it both.
         Bench.due(32, "also by none", 2, () -> b.x.race(0, 2));
+        Bench.due(32, "also by none, the other way round", 2, () -> b.x.race(2, 0));
     }
 
     private static void passes() {

@@ -110,7 +110,7 @@ public final class TextTest {
             "every 0 at", "every 61", "every 5 at 60", "every 5 group", "every 5 at 0 group 0 priority 0 cost 1 grace 10",
             "every 5 at 0 group 0 priority 0 cost 1 grace", "every 5 at 0 group 0 priority 0 cost 1 each grace 1",
             "lease 0", "lease 61", "base 0", "base 10", "cap 0", "cap 100", "jitter 10", "limit 0", "limit 10",
-            "lease 3 lease 3", "lease -1", "lease\t3", "  ", " lease  ",
+            "lease 3 lease 3", "lease -1", "lease\t3", "  ", " lease  ", "leasea 3", "leasez 3", "lease 3z",
         };
         int[] faults = {
             3, 0, 0, 4, 0, 0, 8, 9, 0, 7,
@@ -122,7 +122,7 @@ public final class TextTest {
             6, 6, 11, 8, 45,
             44, 44,
             6, 6, 5, 5, 4, 4, 7, 6, 6,
-            8, 6, 5, -1, 8,
+            8, 6, 5, -1, 8, 0, 0, 7,
         };
         for (int i = 0; i < texts.length; i++) {
             String text = texts[i];
@@ -181,6 +181,8 @@ public final class TextTest {
             "claim 1 order by cost desc desc", "claim 1 order by costs", "claim 1 order by cost where cost = 1",
             "claim 1 order by cost group", "claim 1 where cost=1 and cost=1 and cost=1 and cost=1 and cost=1",
             "claim 1 order by cost,cost,cost desc,cost,cost", "claim 1 order by cost,cost,cost,cost,", "claim 1;", "claim 1 order  BY",
+            "claim 1 where cost 3", "claim 1 where cost=1 and cost=1 and cost=1 and cost=1 and",
+            "claim 1 where cost=1 and cost=1 and cost=1 and cost=1 and order by cost",
         };
         int[] faults = {
             0, 3, 0, 5, 6, 6, 6, 8, 13, 14,
@@ -190,6 +192,7 @@ public final class TextTest {
             27, 17, 22,
             22, 58,
             42, 37, 7, 15,
+            19, 57, 58,
         };
         for (int i = 0; i < texts.length; i++) {
             String text = texts[i];

@@ -54,6 +54,18 @@ public final class TransactionTest {
         Bench.due(27, "SAVEPOINTS without a transaction", 0, () -> b.x.session(0, 1));
         b.x.begin(0);
         Bench.due(9, "save in a new transaction", 0, () -> b.x.save(0));
+        b.x.claim(0);
+        b.x.undo(0, 0);
+        b.x.claim(0);
+        b.x.commit(0);
+        b.x.begin(0);
+        b.x.renew(0, 0, 2);
+        b.x.save(0);
+        b.x.commit(0);
+        b.x.begin(0);
+        b.x.save(0);
+        b.x.renew(0, 0, 2);
+        Bench.due(10, "a savepoint knows nothing of those of an older transaction", 1, () -> b.x.undo(0, 0));
     }
 
     private static void undoes() {
