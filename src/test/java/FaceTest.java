@@ -6,8 +6,10 @@ import java.lang.reflect.Method;
 import java.lang.reflect.Modifier;
 import java.nio.file.Files;
 import java.nio.file.Path;
+import java.util.ArrayList;
 import java.util.Arrays;
 import java.util.Comparator;
+import java.util.List;
 import java.util.Map;
 import java.util.Random;
 import java.util.TreeMap;
@@ -34,6 +36,8 @@ public final class FaceTest {
     public static void main(String[] args) throws IOException, IllegalAccessException {
         hasItsFaceAlone();
         namesNoOtherLibrary();
+        staysSmall();
+        keepsNoStaticState();
         bearsAnyNumber();
         Bench.end("FaceTest");
     }
@@ -89,6 +93,49 @@ public final class FaceTest {
         }
         Bench.due(1, "one import", "import java.util.NoSuchElementException;",
             () -> String.join("\n", source.lines().filter(l -> l.startsWith("import")).toList()));
+    }
+
+    /** Rule 11: parameters, fields and the lines of methods. */
+    private static void staysSmall() throws IOException {
+        for (Class<?> type : allClasses()) {
+            for (Method method : type.getDeclaredMethods()) {
+                Bench.due(1, "parameters of " + method, true, () -> method.getParameterCount() <= 7);
+            }
+            long fields = Arrays.stream(type.getDeclaredFields()).filter(f -> !Modifier.isStatic(f.getModifiers())).count();
+            Bench.due(1, "fields of " + type.getSimpleName(), true, () -> fields <= 20);
+        }
+        List<String> lines = Files.readAllLines(Path.of("src/main/java/ClaimTable.java"));
+        int begin = -1;
+        for (int i = 0; i < lines.size(); i++) {
+            String line = lines.get(i);
+            if (line.matches("( {4}| {8})(?! )[^;]*\\(.*")) {
+                begin = i;
+            } else if (begin >= 0 && line.matches("( {4}| {8})}")) {
+                int length = i - begin + 1;
+                Bench.due(1, "lines of '" + lines.get(begin).strip() + "'", true, () -> length <= 60);
+                begin = -1;
+            }
+        }
+    }
+
+    /** Rule 5: what is static is final, and a number, a text or an array of numbers. */
+    private static void keepsNoStaticState() {
+        List<Class<?>> fine = List.of(int.class, long.class, boolean.class, char.class, String.class, int[].class, long[].class, char[].class,
+            byte[].class);
+        for (Class<?> type : allClasses()) {
+            for (Field field : type.getDeclaredFields()) {
+                if (Modifier.isStatic(field.getModifiers())) {
+                    Bench.due(1, field + " is final and of a fine type", true,
+                        () -> Modifier.isFinal(field.getModifiers()) && fine.contains(field.getType()));
+                }
+            }
+        }
+    }
+
+    private static List<Class<?>> allClasses() {
+        List<Class<?>> all = new ArrayList<>(List.of(ClaimTable.class.getDeclaredClasses()));
+        all.add(ClaimTable.class);
+        return all;
     }
 
     /** Each call of the face with numbers of all sorts, in a table where much is going on. */
