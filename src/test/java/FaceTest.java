@@ -1,4 +1,5 @@
 import java.io.IOException;
+import java.lang.reflect.Array;
 import java.lang.reflect.Constructor;
 import java.lang.reflect.Field;
 import java.lang.reflect.InvocationTargetException;
@@ -8,10 +9,13 @@ import java.nio.file.Files;
 import java.nio.file.Path;
 import java.util.ArrayList;
 import java.util.Arrays;
+import java.util.Collections;
 import java.util.Comparator;
+import java.util.IdentityHashMap;
 import java.util.List;
 import java.util.Map;
 import java.util.Random;
+import java.util.Set;
 import java.util.TreeMap;
 
 /** The face is the document's, nothing outside LANGUAGE.md's library is named, and no call throws what it may not. */
@@ -38,6 +42,7 @@ public final class FaceTest {
         namesNoOtherLibrary();
         staysSmall();
         keepsNoStaticState();
+        keepsItsRoomSmall();
         bearsAnyNumber();
         Bench.end("FaceTest");
     }
@@ -130,6 +135,39 @@ public final class FaceTest {
                 }
             }
         }
+    }
+
+    /** Rule 12: an object is a small part of the room of a run, and its calls make nothing but exceptions. */
+    private static void keepsItsRoomSmall() throws IOException, IllegalAccessException {
+        Set<Object> found = Collections.newSetFromMap(new IdentityHashMap<>());
+        long parts = partsOf(new ClaimTable(), found);
+        Bench.due(1, "objects and arrays of a new object", true, () -> found.size() < 1200);
+        Bench.due(1, "fields and elements of a new object", true, () -> parts < 14000);
+        String made = "(default: )?throw new .*|private (final )?\\w+(\\[\\])? \\w+ = new .*|(saved|jobs|sessions|schedules)\\[\\w] = new .*";
+        List<String> others = Files.readAllLines(Path.of("src/main/java/ClaimTable.java")).stream().map(String::strip)
+            .filter(l -> l.contains("new ") && !l.matches(made) && !l.matches("(//|/?\\*).*")).toList();
+        Bench.due(1, "lines that make something else", List.of(), () -> others);
+    }
+
+    private static long partsOf(Object object, Set<Object> found) throws IllegalAccessException {
+        if (object == null || !found.add(object)) {
+            return 0;
+        }
+        long parts = 0;
+        if (object.getClass().isArray()) {
+            int length = Array.getLength(object);
+            for (int i = 0; i < length && !object.getClass().getComponentType().isPrimitive(); i++) {
+                parts += partsOf(Array.get(object, i), found);
+            }
+            return parts + length;
+        }
+        for (Field field : object.getClass().getDeclaredFields()) {
+            if (!Modifier.isStatic(field.getModifiers())) {
+                field.setAccessible(true);
+                parts += 1 + (field.getType().isPrimitive() ? 0 : partsOf(field.get(object), found));
+            }
+        }
+        return parts;
     }
 
     private static List<Class<?>> allClasses() {

@@ -21,11 +21,14 @@ public final class ModelTest {
     private final List<String> run = new ArrayList<>();
     private final Map<String, Map<String, Integer>> seen;
     private final int groups;
+    // Of a hundred TRANSACTIONS that could end by an act, how many do.
+    private final int ending;
     private boolean failed;
 
     private ModelTest(long seed, Map<String, Map<String, Integer>> seen) {
         random = new Random(seed);
         groups = 1 + random.nextInt(6);
+        ending = random.nextInt(3) * 50;
         this.seen = seen;
     }
 
@@ -186,6 +189,28 @@ public final class ModelTest {
         return found.isEmpty() ? new int[] {session(), job(), in(0, 5)} : found.get(in(0, found.size() - 1));
     }
 
+    private int setAside() {
+        int last = -1;
+        for (int k = in(0, 3); k >= 0 && last < 0; k--) {
+            last = model.find(3, k);
+        }
+        return Math.max(0, last);
+    }
+
+    /** Mostly back to a SAVEPOINT that there is, so that what is kept for it matters. */
+    private void undo() {
+        int session = session();
+        boolean known = session >= 0 && session < model.w.sessions.size();
+        int points = known ? model.w.sessions.get(session).savepoints.size() : 0;
+        call("undo", session, points > 0 && chance(90) ? in(0, points - 1) : in(-1, 5));
+    }
+
+    private void end(String how) {
+        if (chance(ending)) {
+            call(how, session());
+        }
+    }
+
     private void act() {
         int[] h = held();
         switch (in(0, 26)) {
@@ -204,10 +229,10 @@ public final class ModelTest {
             case 4: call("begin", session()); break;
             case 5:
             case 6: call("save", session()); break;
-            case 7: call("undo", session(), chance(90) ? in(0, 2) : in(-1, 5)); break;
+            case 7: undo(); break;
             case 8:
-            case 9: call("commit", session()); break;
-            case 10: call("roll", session()); break;
+            case 9: end("commit"); break;
+            case 10: end("roll"); break;
             case 11:
             case 12:
             case 13: call("claim", session()); break;
@@ -215,10 +240,10 @@ public final class ModelTest {
             case 15: call("finish", h[0], h[1], h[2]); break;
             case 16:
             case 17:
-            case 18: call("fail", h[0], h[1], h[2], chance(90) ? in(0, 4) : in(-1, 7)); break;
+            case 18: call("fail", h[0], h[1], h[2], chance(75) ? in(0, 4) : in(-1, 7)); break;
             case 19: call("give", h[0], h[1], h[2]); break;
             case 20: call("reap", session()); break;
-            case 21: call("retry", session(), chance(80) ? Math.max(0, model.find(3, in(0, 2))) : job()); break;
+            case 21: call("retry", session(), chance(80) ? setAside() : job()); break;
             case 22:
             case 23: call("bring", session(), chance(97) ? in(0, groups - 1) : in(-1, 7), chance(97) ? in(0, 9) : in(-1, 11), chance(97) ? in(1, 9) : in(-1, 11)); break;
             case 24: call(chance(50) ? "sweep" : chance(20) ? "image" : chance(20) ? "back" : "sweep"); break;
@@ -278,8 +303,14 @@ public final class ModelTest {
     }
 
     private boolean goesWell() {
-        if (chance(50)) {
+        if (chance(90)) {
             tell("session;session slow 3;session skew 2;session" + (chance(50) ? ";parallel 0 3;limit 9;parallel 1 2" : ""));
+            call("table");
+        }
+        if (chance(50)) {
+            tell("cap " + in(1, 3) + ";lease " + in(1, 4) + ";parallel 0 4;parallel 1 4" + (";job " + cargo()).repeat(in(1, 4)));
+            call("table");
+            tell("job " + cargo() + (";job " + cargo()).repeat(in(1, 4)));
             call("table");
         }
         for (int i = 0; i < 150 && !failed; i++) {
